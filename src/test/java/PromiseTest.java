@@ -56,6 +56,7 @@ public final class PromiseTest {
         earliestFinish();
         delay();
         couldPrecede();
+        longPaths();
         manyCalls();
         System.out.println(wrong == 0 ? "all answers are as due" : wrong + " answers are not as due");
         if (wrong != 0) {
@@ -701,6 +702,46 @@ public final class PromiseTest {
         due("a shorter way", y.couldPrecede(0, 2), true);
         y.unlink(0, 1);
         due("no cycle any more", y.couldPrecede(2, 0), true);
+    }
+
+    /** Paths through all five jobs, up and down the numbers: what holds at one end must be felt at the other. */
+    private static void longPaths() {
+        part = "long paths";
+        for (int first = 0; first <= 4; first += 4) {
+            int step = first == 0 ? 1 : -1;
+            int last = 4 - first;
+            SplitJobPlanner x = new SplitJobPlanner(5, 1000);
+            for (int i = 0; i < 5; i++) {
+                x.add(i == first ? 9 : 0, 1);
+            }
+            for (int i = first; i != last; i += step) {
+                due("link(" + i + ", " + (i + step) + ")", x.link(i, i + step), OK);
+            }
+            due("the last ends at 9 + 5", x.earliestFinish(last), 14);
+            due("the first ends at 9 + 1", x.earliestFinish(first), 10);
+            due("span()", x.span(), 14);
+            due("worst()", x.worst(), 14);
+            due("from last to first", x.link(last, first), CYCLE);
+            due("couldPrecede(last, first)", x.couldPrecede(last, first), false);
+            due("without the first", x.worstWithout(first), 4);
+            due("the last must end by 14", x.setRule(last, HARD, 14, 1), OK);
+            due("worst() with the last by 14", x.worst(), 13);
+            due("the last can't end by 13", x.setRule(last, HARD, 13, 1), OK);
+            due("worst() with the last by 13", x.worst(), 1000);
+        }
+
+        SplitJobPlanner y = new SplitJobPlanner(5, 20);
+        for (int i = 0; i < 5; i++) {
+            y.add(0, 1);
+        }
+        for (int i = 0; i < 4; i++) {
+            y.link(i, i + 1);
+        }
+        due("the last by 8", y.setRule(4, HARD, 8, 1), OK);
+        due("the first by 4", y.delay(0), 3);
+        due("the last by 4", y.setRule(4, HARD, 4, 1), REFUSED);
+        due("the last by 5", y.setRule(4, HARD, 5, 1), OK);
+        due("the first by 1", y.delay(0), 0);
     }
 
     /** An object is used for up to 512 calls: the last ones must still answer as the document says. */
