@@ -5,8 +5,13 @@ import java.util.Arrays;
  * The model shares no idea with the program: it knows no deadlines and no order of urgency.
  */
 public final class ModelTest {
-    private static final int RUNS = 400;
-    private static final int CALLS = 60;
+    private static final int RUNS = 300;
+    private static final int ROUNDS = 60;
+    // Some runs go on to the last call that the document speaks of.
+    private static final int FULL_RUNS = 60;
+    private static final int MOST_CALLS = 512;
+    // A round is one change and four questions at the most.
+    private static final int CALLS_IN_ROUND = 5;
     private static final int OK = 0;
     private static final int BAD = -1;
     private static final int FULL = -2;
@@ -17,7 +22,14 @@ public final class ModelTest {
     // No plan needs to go on longer: releases are at most 18 with delay, lengths 15 in all.
     private static final int END = 40;
 
+    // What a mask or a shift would take for a small number, and the ends of int.
+    private static final int[] WILD = {
+        Integer.MIN_VALUE, Integer.MIN_VALUE + 1, -65536, -32, -31, -1, 5, 31, 32, 33, 34, 64, 256, 65536, 65537,
+        Integer.MAX_VALUE - 1, Integer.MAX_VALUE
+    };
+
     private static int wrong = 0;
+    private static int calls = 0;
     private static long seed = 20261115L;
 
     /** What the document says, done in the most literal way. */
@@ -271,10 +283,15 @@ public final class ModelTest {
     }
 
     private static int number() {
-        return pick(0, 19) == 0 ? pick(-2, 40) : pick(0, 4);
+        return pick(0, 19) == 0 ? pick(-2, 40) : wildAtTimes(pick(0, 4));
+    }
+
+    private static int wildAtTimes(int tame) {
+        return pick(0, 39) == 0 ? WILD[pick(0, WILD.length - 1)] : tame;
     }
 
     private static void due(int run, String call, int got, int want) {
+        calls++;
         if (got != want) {
             wrong++;
             if (wrong <= 50) {
@@ -288,15 +305,20 @@ public final class ModelTest {
     }
 
     public static void main(String[] args) {
-        for (int run = 0; run < RUNS; run++) {
-            int capacity = pick(0, 3) == 0 ? pick(-1, 7) : 5;
+        for (int run = 0; run < RUNS + FULL_RUNS; run++) {
+            boolean isFull = run >= RUNS;
+            int capacity = wildAtTimes(pick(0, 3) == 0 ? pick(-1, 7) : 5);
             int[] caps = {pick(-210, 1010), pick(-40, 0), pick(0, 12), pick(10, 40), pick(15, 130), 1000};
-            int cap = caps[pick(0, 5)];
+            int cap = wildAtTimes(caps[pick(0, 5)]);
             SplitJobPlanner x = new SplitJobPlanner(capacity, cap);
             Model m = new Model(capacity, cap);
-            for (int call = 0; call < CALLS; call++) {
+            calls = 0;
+            for (int round = 0; isFull ? calls + CALLS_IN_ROUND <= MOST_CALLS : round < ROUNDS; round++) {
                 change(run, x, m);
                 ask(run, x, m);
+            }
+            while (isFull && calls < MOST_CALLS) {
+                due(run, "worst(), call " + (calls + 1), x.worst(), m.worst());
             }
         }
         System.out.println(wrong == 0 ? "all answers are as due" : wrong + " answers are not as due");
@@ -308,11 +330,11 @@ public final class ModelTest {
     private static void change(int run, SplitJobPlanner x, Model m) {
         int i = number();
         int j = number();
-        int r = pick(0, 2) == 0 ? pick(-1, 10) : pick(0, 4);
-        int p = pick(0, 9) == 0 ? pick(-1, 5) : pick(1, 3);
-        int k = pick(0, 19) == 0 ? pick(-2, 6) : pick(0, 3);
-        int d = pick(0, 3) == 0 ? pick(-2, 33) : pick(0, 16);
-        int w = pick(0, 9) == 0 ? pick(-1, 7) : pick(1, 5);
+        int r = wildAtTimes(pick(0, 2) == 0 ? pick(-1, 10) : pick(0, 4));
+        int p = wildAtTimes(pick(0, 9) == 0 ? pick(-1, 5) : pick(1, 3));
+        int k = wildAtTimes(pick(0, 19) == 0 ? pick(-2, 6) : pick(0, 3));
+        int d = wildAtTimes(pick(0, 3) == 0 ? pick(-2, 33) : pick(0, 16));
+        int w = wildAtTimes(pick(0, 9) == 0 ? pick(-1, 7) : pick(1, 5));
         switch (pick(0, 11)) {
             case 0: case 1:
                 due(run, "add(" + r + ", " + p + ")", x.add(r, p), m.add(r, p, 0, 0));
@@ -343,7 +365,7 @@ public final class ModelTest {
         int j = number();
         due(run, "jobs()", x.jobs(), m.jobs());
         due(run, "linked(" + i + ", " + j + ")", bit(x.linked(i, j)), bit(m.linked(i, j)));
-        int t = pick(-2, 63);
+        int t = wildAtTimes(pick(-2, 63));
         int cost = m.has(i) && t >= 0 && t <= 60 ? m.cost(i, t) : NOTHING;
         due(run, "costAt(" + i + ", " + t + ")", x.costAt(i, t), cost);
         switch (pick(0, 5)) {
