@@ -1471,6 +1471,12 @@ public final class BoundaryTest {
         due("in a row", y.span(), 14);
         y.setRule(0, HARD, 0, 5);
         due("whatever it costs", y.span(), 14);
+        y.unlink(1, 0);
+        due("0 at the beginning again", y.span(), 13);
+        y.remove(1);
+        due("9 + 1", y.span(), 10);
+        y.remove(2);
+        due("0 alone", y.span(), 1);
         sentence("Promise 13: a question changes nothing");
         for (Supplier<SplitJobPlanner> start : starts()) {
             unchangedBy(start, x -> x.span());
