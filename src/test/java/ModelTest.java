@@ -1,17 +1,25 @@
+import java.util.ArrayList;
 import java.util.Arrays;
+import java.util.List;
 
 /**
  * Long made-up runs of calls, each answer checked against a slow model that walks through all plans, unit by unit.
  * The model shares no idea with the program: it knows no deadlines and no order of urgency.
+ *
+ * There are three sorts of runs. The loose ones mix wild arguments in and ask a question here and there. The full ones
+ * go on to the last call that the document speaks of and ask each question after every change. The watched ones make
+ * changes alone, and after each change a new object that has gone through the same changes is asked everything: so
+ * nothing that a question might leave behind can hide what a change did.
  */
 public final class ModelTest {
-    private static final int RUNS = 300;
-    private static final int ROUNDS = 60;
-    // Some runs go on to the last call that the document speaks of.
+    private static final int LOOSE_RUNS = 300;
+    private static final int LOOSE_ROUNDS = 60;
     private static final int FULL_RUNS = 60;
     private static final int MOST_CALLS = 512;
-    // A round is one change and four questions at the most.
-    private static final int CALLS_IN_ROUND = 5;
+    // One change and each of the nine questions.
+    private static final int CALLS_IN_FULL_ROUND = 10;
+    private static final int WATCHED_RUNS = 40;
+    private static final int WATCHED_CHANGES = 50;
     private static final int OK = 0;
     private static final int BAD = -1;
     private static final int FULL = -2;
@@ -73,7 +81,7 @@ public final class ModelTest {
             best[full] = Integer.MIN_VALUE;
             for (int t = 0; t < END; t++) {
                 int[] next = best.clone();
-                for (int left = 0; left < 1024; left++) {
+                for (int left = 0; left <= full; left++) {
                     if (best[left] != NO_PLAN) {
                         spread(best[left], next, left, t, limited, limit);
                     }
@@ -213,6 +221,10 @@ public final class ModelTest {
             return answer;
         }
 
+        int costAt(int id, int t) {
+            return has(id) && t >= 0 && t <= 60 ? cost(id, t) : NOTHING;
+        }
+
         int worst() {
             return jobs() == 0 ? NOTHING : leastWorst(-1, 0);
         }
@@ -277,6 +289,45 @@ public final class ModelTest {
         }
     }
 
+    /** One call that may change something, to be made on an object, on the model, and on another object once more. */
+    private static final class Change {
+        final String name;
+        final int[] with;
+
+        Change(String name, int... with) {
+            this.name = name;
+            this.with = with;
+        }
+
+        @Override
+        public String toString() {
+            String list = Arrays.toString(with);
+            return name + "(" + list.substring(1, list.length() - 1) + ")";
+        }
+
+        int on(SplitJobPlanner x) {
+            switch (name) {
+                case "add": return x.add(with[0], with[1]);
+                case "addRuled": return x.addRuled(with[0], with[1], with[2]);
+                case "setRule": return x.setRule(with[0], with[1], with[2], with[3]);
+                case "link": return x.link(with[0], with[1]);
+                case "unlink": return bit(x.unlink(with[0], with[1]));
+                default: return bit(x.remove(with[0]));
+            }
+        }
+
+        int on(Model m) {
+            switch (name) {
+                case "add": return m.add(with[0], with[1], 0, 0);
+                case "addRuled": return m.add(0, with[0], with[1], with[2]);
+                case "setRule": return m.setRule(with[0], with[1], with[2], with[3]);
+                case "link": return m.link(with[0], with[1], true);
+                case "unlink": return bit(m.unlink(with[0], with[1]));
+                default: return bit(m.remove(with[0]));
+            }
+        }
+    }
+
     private static int pick(int least, int most) {
         seed = seed * 6364136223846793005L + 1442695040888963407L;
         return least + (int) ((seed >>> 33) % (most - least + 1));
@@ -286,16 +337,40 @@ public final class ModelTest {
         return pick(0, 19) == 0 ? pick(-2, 40) : wildAtTimes(pick(0, 4));
     }
 
+    /** Mostly the number of a job, so that a run does more than go astray. */
+    private static int heldNumber(Model m) {
+        int id = number();
+        for (int tries = 0; tries < 6 && !m.has(id); tries++) {
+            id = number();
+        }
+        return id;
+    }
+
     private static int wildAtTimes(int tame) {
         return pick(0, 39) == 0 ? WILD[pick(0, WILD.length - 1)] : tame;
     }
 
-    private static void due(int run, String call, int got, int want) {
+    private static int someCapacity() {
+        return wildAtTimes(pick(0, 3) == 0 ? pick(-1, 7) : 5);
+    }
+
+    private static int someCap() {
+        int[] caps = {pick(-210, 1010), pick(-40, 0), pick(0, 12), pick(10, 40), pick(15, 130), 1000};
+        return wildAtTimes(caps[pick(0, 5)]);
+    }
+
+    /** Lets some jobs in, and most often not all that come. */
+    private static int tightCap() {
+        int[] caps = {pick(-12, 0), pick(2, 12), pick(8, 16), pick(12, 30), pick(20, 70), 1000};
+        return caps[pick(0, 5)];
+    }
+
+    private static void due(String where, String call, int got, int want) {
         calls++;
         if (got != want) {
             wrong++;
             if (wrong <= 50) {
-                System.out.println("run " + run + ": " + call + " answered " + got + ", due is " + want);
+                System.out.println(where + ": " + call + " answered " + got + ", due is " + want);
             }
         }
     }
@@ -305,21 +380,14 @@ public final class ModelTest {
     }
 
     public static void main(String[] args) {
-        for (int run = 0; run < RUNS + FULL_RUNS; run++) {
-            boolean isFull = run >= RUNS;
-            int capacity = wildAtTimes(pick(0, 3) == 0 ? pick(-1, 7) : 5);
-            int[] caps = {pick(-210, 1010), pick(-40, 0), pick(0, 12), pick(10, 40), pick(15, 130), 1000};
-            int cap = wildAtTimes(caps[pick(0, 5)]);
-            SplitJobPlanner x = new SplitJobPlanner(capacity, cap);
-            Model m = new Model(capacity, cap);
-            calls = 0;
-            for (int round = 0; isFull ? calls + CALLS_IN_ROUND <= MOST_CALLS : round < ROUNDS; round++) {
-                change(run, x, m);
-                ask(run, x, m);
-            }
-            while (isFull && calls < MOST_CALLS) {
-                due(run, "worst(), call " + (calls + 1), x.worst(), m.worst());
-            }
+        for (int run = 0; run < LOOSE_RUNS; run++) {
+            looseRun("loose run " + run);
+        }
+        for (int run = 0; run < FULL_RUNS; run++) {
+            fullRun("full run " + run);
+        }
+        for (int run = 0; run < WATCHED_RUNS; run++) {
+            watchedRun("watched run " + run);
         }
         System.out.println(wrong == 0 ? "all answers are as due" : wrong + " answers are not as due");
         if (wrong != 0) {
@@ -327,66 +395,165 @@ public final class ModelTest {
         }
     }
 
-    private static void change(int run, SplitJobPlanner x, Model m) {
-        int i = number();
-        int j = number();
+    private static void looseRun(String where) {
+        int capacity = someCapacity();
+        int cap = someCap();
+        SplitJobPlanner x = new SplitJobPlanner(capacity, cap);
+        Model m = new Model(capacity, cap);
+        for (int round = 0; round < LOOSE_ROUNDS; round++) {
+            change(where, looseChange(), x, m);
+            askSome(where, x, m);
+        }
+    }
+
+    private static void fullRun(String where) {
+        int capacity = someCapacity();
+        int cap = tightCap();
+        SplitJobPlanner x = new SplitJobPlanner(capacity, cap);
+        Model m = new Model(capacity, cap);
+        calls = 0;
+        while (calls + CALLS_IN_FULL_ROUND <= MOST_CALLS) {
+            change(where + ", call " + (calls + 1), aimedChange(m), x, m);
+            askEach(where + ", call " + (calls + 1), x, m);
+        }
+        while (calls < MOST_CALLS) {
+            due(where + ", call " + (calls + 1), "worst()", x.worst(), m.worst());
+        }
+    }
+
+    private static void watchedRun(String where) {
+        int capacity = someCapacity();
+        int cap = tightCap();
+        SplitJobPlanner x = new SplitJobPlanner(capacity, cap);
+        Model m = new Model(capacity, cap);
+        List<Change> done = new ArrayList<>();
+        for (int round = 1; round <= WATCHED_CHANGES; round++) {
+            Change next = aimedChange(m);
+            change(where + ", change " + round, next, x, m);
+            done.add(next);
+            SplitJobPlanner twin = new SplitJobPlanner(capacity, cap);
+            for (Change one : done) {
+                one.on(twin);
+            }
+            askAll(where + ", after change " + round + " " + next, twin, m);
+        }
+    }
+
+    private static void change(String where, Change next, SplitJobPlanner x, Model m) {
+        due(where, next.toString(), next.on(x), next.on(m));
+    }
+
+    private static Change looseChange() {
+        return changeOf(pick(0, 35), number(), number());
+    }
+
+    private static Change aimedChange(Model m) {
+        int what = pick(0, 35);
+        int i = heldNumber(m);
+        int j = heldNumber(m);
+        // Most pairs are not linked: it takes some tries to find a link that can be undone.
+        for (int tries = 0; isUnlink(what) && tries < 20 && !m.linked(i, j); tries++) {
+            i = heldNumber(m);
+            j = heldNumber(m);
+        }
+        return changeOf(what, i, j);
+    }
+
+    private static boolean isUnlink(int what) {
+        return what >= 30 && what <= 33;
+    }
+
+    private static Change changeOf(int what, int i, int j) {
         int r = wildAtTimes(pick(0, 2) == 0 ? pick(-1, 10) : pick(0, 4));
         int p = wildAtTimes(pick(0, 9) == 0 ? pick(-1, 5) : pick(1, 3));
         int k = wildAtTimes(pick(0, 19) == 0 ? pick(-2, 6) : pick(0, 3));
         int d = wildAtTimes(pick(0, 3) == 0 ? pick(-2, 33) : pick(0, 16));
         int w = wildAtTimes(pick(0, 9) == 0 ? pick(-1, 7) : pick(1, 5));
-        switch (pick(0, 11)) {
-            case 0: case 1:
-                due(run, "add(" + r + ", " + p + ")", x.add(r, p), m.add(r, p, 0, 0));
-                break;
-            case 2: case 3:
-                due(run, "addRuled(" + p + ", " + k + ", " + d + ")", x.addRuled(p, k, d), m.add(0, p, k, d));
-                break;
-            case 4: case 5: case 6:
-                due(run, "setRule(" + i + ", " + k + ", " + d + ", " + w + ")",
-                    x.setRule(i, k, d, w), m.setRule(i, k, d, w));
-                break;
-            case 7: case 8: case 9:
-                due(run, "link(" + i + ", " + j + ")", x.link(i, j), m.link(i, j, true));
-                break;
-            case 10:
-                due(run, "unlink(" + i + ", " + j + ")", bit(x.unlink(i, j)), bit(m.unlink(i, j)));
-                break;
-            default:
-                if (pick(0, 2) == 0) {
-                    due(run, "remove(" + i + ")", bit(x.remove(i)), bit(m.remove(i)));
-                }
-                break;
+        if (what < 6) {
+            return new Change("add", r, p);
+        }
+        if (what < 12) {
+            return new Change("addRuled", p, k, d);
+        }
+        if (what < 21) {
+            return new Change("setRule", i, k, d, w);
+        }
+        if (what < 30) {
+            return new Change("link", i, j);
+        }
+        return isUnlink(what) ? new Change("unlink", i, j) : new Change("remove", i);
+    }
+
+    private static void askSome(String where, SplitJobPlanner x, Model m) {
+        int i = number();
+        int j = number();
+        askState(where, x, m, i, j);
+        switch (pick(0, 5)) {
+            case 0: askWorst(where, x, m); break;
+            case 1: askWorstWithout(where, x, m, i); break;
+            case 2: askSpan(where, x, m); break;
+            case 3: askEarliestFinish(where, x, m, i); break;
+            case 4: askDelay(where, x, m, i); break;
+            default: askCouldPrecede(where, x, m, i, j); break;
         }
     }
 
-    private static void ask(int run, SplitJobPlanner x, Model m) {
-        int i = number();
-        int j = number();
-        due(run, "jobs()", x.jobs(), m.jobs());
-        due(run, "linked(" + i + ", " + j + ")", bit(x.linked(i, j)), bit(m.linked(i, j)));
-        int t = wildAtTimes(pick(-2, 63));
-        int cost = m.has(i) && t >= 0 && t <= 60 ? m.cost(i, t) : NOTHING;
-        due(run, "costAt(" + i + ", " + t + ")", x.costAt(i, t), cost);
-        switch (pick(0, 5)) {
-            case 0:
-                due(run, "worst()", x.worst(), m.worst());
-                break;
-            case 1:
-                due(run, "worstWithout(" + i + ")", x.worstWithout(i), m.worstWithout(i));
-                break;
-            case 2:
-                due(run, "span()", x.span(), m.span());
-                break;
-            case 3:
-                due(run, "earliestFinish(" + i + ")", x.earliestFinish(i), m.earliestFinish(i));
-                break;
-            case 4:
-                due(run, "delay(" + i + ")", x.delay(i), m.delay(i));
-                break;
-            default:
-                due(run, "couldPrecede(" + i + ", " + j + ")", bit(x.couldPrecede(i, j)), bit(m.link(i, j, false) == OK));
-                break;
+    private static void askEach(String where, SplitJobPlanner x, Model m) {
+        int i = heldNumber(m);
+        int j = heldNumber(m);
+        askState(where, x, m, i, j);
+        askWorst(where, x, m);
+        askWorstWithout(where, x, m, i);
+        askSpan(where, x, m);
+        askEarliestFinish(where, x, m, i);
+        askDelay(where, x, m, i);
+        askCouldPrecede(where, x, m, i, j);
+    }
+
+    /** The numbers go one beyond both ends. */
+    private static void askAll(String where, SplitJobPlanner x, Model m) {
+        askWorst(where, x, m);
+        askSpan(where, x, m);
+        for (int i = -1; i <= 5; i++) {
+            askWorstWithout(where, x, m, i);
+            askEarliestFinish(where, x, m, i);
+            askDelay(where, x, m, i);
+            for (int j = -1; j <= 5; j++) {
+                askState(where, x, m, i, j);
+                askCouldPrecede(where, x, m, i, j);
+            }
         }
+    }
+
+    private static void askState(String where, SplitJobPlanner x, Model m, int i, int j) {
+        due(where, "jobs()", x.jobs(), m.jobs());
+        due(where, "linked(" + i + ", " + j + ")", bit(x.linked(i, j)), bit(m.linked(i, j)));
+        int t = wildAtTimes(pick(-2, 63));
+        due(where, "costAt(" + i + ", " + t + ")", x.costAt(i, t), m.costAt(i, t));
+    }
+
+    private static void askWorst(String where, SplitJobPlanner x, Model m) {
+        due(where, "worst()", x.worst(), m.worst());
+    }
+
+    private static void askWorstWithout(String where, SplitJobPlanner x, Model m, int i) {
+        due(where, "worstWithout(" + i + ")", x.worstWithout(i), m.worstWithout(i));
+    }
+
+    private static void askSpan(String where, SplitJobPlanner x, Model m) {
+        due(where, "span()", x.span(), m.span());
+    }
+
+    private static void askEarliestFinish(String where, SplitJobPlanner x, Model m, int i) {
+        due(where, "earliestFinish(" + i + ")", x.earliestFinish(i), m.earliestFinish(i));
+    }
+
+    private static void askDelay(String where, SplitJobPlanner x, Model m, int i) {
+        due(where, "delay(" + i + ")", x.delay(i), m.delay(i));
+    }
+
+    private static void askCouldPrecede(String where, SplitJobPlanner x, Model m, int i, int j) {
+        due(where, "couldPrecede(" + i + ", " + j + ")",
+            bit(x.couldPrecede(i, j)), bit(m.link(i, j, false) == OK));
     }
 }

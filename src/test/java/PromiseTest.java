@@ -58,6 +58,7 @@ public final class PromiseTest {
         couldPrecede();
         longPaths();
         manyCalls();
+        readmeExample();
         System.out.println(wrong == 0 ? "all answers are as due" : wrong + " answers are not as due");
         if (wrong != 0) {
             System.exit(1);
@@ -758,5 +759,25 @@ public final class PromiseTest {
         due("add(0, 2)", x.add(0, 2), 1);
         due("link(0, 1)", x.link(0, 1), OK);
         due("worst()", x.worst(), 8);
+    }
+
+    /** The example of README.md, so that it stays true. */
+    private static void readmeExample() {
+        part = "README.md";
+        SplitJobPlanner planner = new SplitJobPlanner(5, 12);
+        int mill = planner.add(0, 3);
+        due("mill", mill, 0);
+        int drill = planner.add(1, 2);
+        due("drill", drill, 1);
+        due("setRule(drill, LATE, 3, 5)", planner.setRule(drill, LATE, 3, 5), OK);
+        due("worst()", planner.worst(), 5);
+        due("link(mill, drill)", planner.link(mill, drill), OK);
+        due("worst() with the link", planner.worst(), 10);
+        due("earliestFinish(drill)", planner.earliestFinish(drill), 5);
+        due("delay(drill)", planner.delay(drill), 2);
+        due("worstWithout(mill)", planner.worstWithout(mill), 0);
+        due("link(drill, mill)", planner.link(drill, mill), CYCLE);
+        due("setRule(drill, HARD, 4, 1)", planner.setRule(drill, HARD, 4, 1), REFUSED);
+        due("worst() after a refusal", planner.worst(), 10);
     }
 }
